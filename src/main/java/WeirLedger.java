@@ -1193,11 +1193,10 @@ public final class WeirLedger {
         /** A quarter passes, by which the investors pay this fee. */
         void pass(long fee) {
             int hurdle = terms[HURDLE];
-            for (int ladder = 0; ladder < LADDERS; ladder++) {
-                long both = standing(ladder);
+            for (int at = 0; at < LADDERS * WIDTH; at += WIDTH) {
+                long both = rungs[at + CAPITAL] + rungs[at + PREF];
                 if (both > 0) {
-                    long grown = rungs[ladder * WIDTH + PREF] + both * hurdle / 10000;
-                    rungs[ladder * WIDTH + PREF] = Math.min(grown, TOP_PREF);
+                    rungs[at + PREF] = Math.min(rungs[at + PREF] + both * hurdle / 10000, TOP_PREF);
                 }
             }
             rungs[WHOLE * WIDTH + CAPITAL] += fee;

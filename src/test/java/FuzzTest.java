@@ -13,6 +13,7 @@ public final class FuzzTest {
     private int investors;
     private int deals;
     private boolean wrong;
+    private boolean crowded;
 
     private FuzzTest(long seed) {
         random = new Random(seed);
@@ -72,11 +73,22 @@ public final class FuzzTest {
         if (chance(90)) {
             tell(fundText(), "fund");
         }
-        int steps = 60 + below(120);
+        crowded = chance(10);
+        int steps = crowded ? 180 : 60 + below(120);
         for (int k = 0; k < steps && !wrong; k++) {
             int kind = below(100);
             if (kind < 40) {
                 ask(actCall());
+                if (chance(30)) {
+                    ask("mark " + dealNumber() + " " + sum());
+                }
+                int size = Integer.parseInt(naive.ask("count 3"));
+                if (crowded && size < 59) {
+                    ask("mark " + dealNumber() + " " + sum());
+                }
+                if (size > 8 && chance(5)) {
+                    finish();
+                }
             } else if (kind < 48) {
                 tell(spoil(actsText(), 25), "acts");
             } else if (kind < 50) {
@@ -95,6 +107,24 @@ public final class FuzzTest {
             }
         }
         all();
+    }
+
+    /** All that is open is sold, and the end comes; then much is asked, and often the end is taken back. */
+    private void finish() {
+        for (int d = 0; d < deals; d++) {
+            ask("sell " + d + " " + sum() + " true");
+        }
+        ask("close");
+        all();
+        for (int k = 0; k < 20; k++) {
+            ask(question());
+        }
+        if (chance(80)) {
+            int taken = 1 + below(4);
+            for (int k = 0; k < taken; k++) {
+                ask("undo");
+            }
+        }
     }
 
     /** Everything that stands, looked at once. */
@@ -142,12 +172,12 @@ public final class FuzzTest {
                 }
             }
         }
-        int n = 1 + below(6);
+        int n = chance(80) ? 2 + below(5) : 1 + below(7);
         int top = chance(50) ? 9999 : 1 + below(1500);
         int dealsAt = below(n + 1);
         for (int i = 0; i <= n; i++) {
             if (i == dealsAt) {
-                s.append(";deals ").append(below(7));
+                s.append(";deals ").append(chance(90) ? 1 + below(6) : below(8));
             }
             if (i < n) {
                 s.append(";investor ").append(number(1, top));
@@ -155,7 +185,7 @@ public final class FuzzTest {
         }
         int excuses = chance(40) ? 1 + below(5) : 0;
         for (int k = 0; k < excuses && chance(95); k++) {
-            s.append(";excuse ").append(below(Math.max(1, n))).append(' ').append(below(chance(10) ? 7 : 3));
+            s.append(";excuse ").append(below(n)).append(' ').append(chance(10) ? below(7) : 0);
         }
         return s.toString();
     }
@@ -265,11 +295,12 @@ public final class FuzzTest {
 
     private String actNumber() {
         int size = Integer.parseInt(naive.ask("count 3"));
-        return orEdge("" + (below(size + 2) - (chance(5) ? 1 : 0)));
+        return orEdge("" + (below(size + (chance(10) ? 2 : 0) + 1) - (chance(5) ? 1 : 0)));
     }
 
     private String asked() {
-        return orEdge(chance(70) ? "" + below(400) : "" + below(5000));
+        int near = Integer.parseInt(naive.ask("manager 0")) + below(30) - 25;
+        return orEdge(chance(60) && near >= 0 ? "" + near : chance(70) ? "" + below(400) : "" + below(5000));
     }
 
     private String question() {
