@@ -83,9 +83,8 @@ public final class WeirLedger {
     private final Fund told = new Fund();
     private final Fund draft = new Fund();
     private final Journal journal = new Journal();
-    private final Trace trace = new Trace();
-    private final State now = new State(trace);
-    private final State trial = new State(null);
+    private final State now = new State(true);
+    private final State trial = new State(false);
     private final Orders orders = new Orders();
     private final Books forecast = new Books();
     private final Books outcome = new Books();
@@ -571,7 +570,7 @@ public final class WeirLedger {
         }
         long sum = 0;
         for (int q = 0; q <= quarter; q++) {
-            sum += trace.flow(MOST_INVESTORS, q);
+            sum += now.trace.flow(MOST_INVESTORS, q);
         }
         return sum;
     }
@@ -585,7 +584,7 @@ public final class WeirLedger {
         int deepest = NONE;
         int turn = NONE;
         for (int q = 0; q <= now.books.quarter; q++) {
-            sum += trace.flow(MOST_INVESTORS, q);
+            sum += now.trace.flow(MOST_INVESTORS, q);
             if (deepest == NONE || sum < least) {
                 deepest = q;
                 least = sum;
@@ -605,7 +604,7 @@ public final class WeirLedger {
         }
         int row = investor == NONE ? MOST_INVESTORS : investor;
         for (int rate = TOP_RATE; rate >= 0; rate--) {
-            if (trace.worth(row, now.books.quarter, rate) >= 0.0) {
+            if (now.trace.worth(row, now.books.quarter, rate) >= 0.0) {
                 return rate;
             }
         }
@@ -730,7 +729,7 @@ public final class WeirLedger {
         books.open(told);
         books.terms[term] = n;
         for (int k = 0; k < journal.size; k++) {
-            books.retrace(journal, k, trace.fees);
+            books.retrace(journal, k, now.trace.fees);
         }
         return books;
     }
@@ -1077,8 +1076,14 @@ public final class WeirLedger {
         static final int QUARTERS = LAST_QUARTER + 1;
 
         // A row for each investor, and one behind them for all together.
-        final long[] net = new long[(MOST_INVESTORS + 1) * QUARTERS];
-        final long[] fees = new long[QUARTERS];
+        final long[] net;
+        final long[] fees;
+
+        /** One that is never used has no room. */
+        Trace(boolean used) {
+            net = new long[used ? (MOST_INVESTORS + 1) * QUARTERS : 0];
+            fees = new long[used ? QUARTERS : 0];
+        }
 
         void clear() {
             Arrays.fill(net, 0L);
@@ -1476,21 +1481,21 @@ public final class WeirLedger {
     private static final class State {
         final Books books = new Books();
         final Register register = new Register();
-        // Null in a trial: there nobody asks who got what, nor when.
+        // Not in a trial: there nobody asks who got what, nor when.
+        final boolean traced;
         final Trace trace;
         long toInvestors;
         long toManager;
 
-        State(Trace trace) {
-            this.trace = trace;
+        State(boolean traced) {
+            this.traced = traced;
+            trace = new Trace(traced);
         }
 
         void open(Fund fund) {
             books.open(fund);
             register.open(fund);
-            if (trace != null) {
-                trace.clear();
-            }
+            trace.clear();
         }
 
         boolean canBe(int kind, int who, int sum, int other) {
@@ -1575,7 +1580,7 @@ public final class WeirLedger {
                 register.weighUncalled(NONE);
                 takeIn(fee);
             }
-            if (trace != null) {
+            if (traced) {
                 trace.fees[books.quarter] = fee;
             }
             books.pass(fee);
@@ -1587,7 +1592,7 @@ public final class WeirLedger {
                 int part = (int) register.parts[i];
                 register.uncalled[i] -= part;
                 register.paid[i] += part;
-                if (trace != null) {
+                if (traced) {
                     trace.add(i, books.quarter, -part);
                 }
             }
@@ -1595,7 +1600,7 @@ public final class WeirLedger {
 
         void handOut(int which) {
             register.gotTogether += toInvestors;
-            if (trace == null || toInvestors == 0) {
+            if (!traced || toInvestors == 0) {
                 return;
             }
             register.weighFor(which);
